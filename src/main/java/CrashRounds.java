@@ -704,7 +704,7 @@ public final class CrashRounds {
                 tried.begin();
                 tried.makeAllRounds();
                 tried.inputs.clear();
-                // Who decides from the same agrees whatever that is: one try stands for all.
+                // If all decided from the same, they agree whatever its values: one try tells.
                 long inputs = tried.allDecidedFromSame() ? 1 : allInputs;
                 for (long input = 0; input < inputs; input++) {
                     breachFound = tried.firstBreach();

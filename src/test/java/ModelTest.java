@@ -18,10 +18,16 @@ public final class ModelTest {
     private static final int WALK_CALLS = 120;
     private static final int RUNS_COMPARED = 3000;
 
+    /** Texts made once, as millions of answers are compared. */
+    private static final String[] VECTOR_OF = new String[11];
+
     private static int wrong = 0;
     private static long state = 20261115;
 
     public static void main(String[] args) {
+        for (int q = -1; q + 1 < VECTOR_OF.length; q++) {
+            VECTOR_OF[q + 1] = "vector of " + q + " by";
+        }
         for (int walk = 0; walk < WALKS && wrong < 20; walk++) {
             compareWalk(walk);
         }
@@ -60,15 +66,21 @@ public final class ModelTest {
         }
     }
 
+    private static void due(CharSequence told, String call, int number, int got, int want) {
+        if (got != want) {
+            due(told + " " + call + " " + number, got, want);
+        }
+    }
+
     private static void compareWalk(int walk) {
         CrashRounds bench = new CrashRounds();
         Model model = new Model();
         StringBuilder told = new StringBuilder("walk " + walk + ":");
         int before = wrong;
-        compareState(told.toString(), bench, model);
+        compareState(told, bench, model);
         for (int call = 0; call < WALK_CALLS && wrong == before; call++) {
             compareCall(told, bench, model);
-            compareState(told.toString(), bench, model);
+            compareState(told, bench, model);
         }
     }
 
@@ -117,18 +129,21 @@ public final class ModelTest {
         }
     }
 
-    private static void compareState(String told, CrashRounds bench, Model model) {
-        for (int p = -1; p <= 9; p++) {
-            due(told + " decided(" + p + ")", bench.decided(p), model.decided(p));
-            due(told + " decidedIn(" + p + ")", bench.decidedIn(p), model.decidedIn(p));
-            due(told + " knows(" + p + ")", bench.knows(p), model.knows(p));
-            due(told + " heard(" + p + ")", bench.heard(p), model.heard(p));
-            due(told + " count(" + p + ")", bench.count(p), model.count(p));
-            for (int q = -1; q <= 8; q++) {
-                due(told + " vector(" + p + "," + q + ")", bench.vector(p, q), model.vector(p, q));
+    private static void compareState(CharSequence told, CrashRounds bench, Model model) {
+        int last = model.n + 1;
+        for (int p = -1; p <= last; p++) {
+            due(told, "decided", p, bench.decided(p), model.decided(p));
+            due(told, "decidedIn", p, bench.decidedIn(p), model.decidedIn(p));
+            due(told, "knows", p, bench.knows(p), model.knows(p));
+            due(told, "heard", p, bench.heard(p), model.heard(p));
+            for (int q = -1; q <= last; q++) {
+                due(told, VECTOR_OF[q + 1], p, bench.vector(p, q), model.vector(p, q));
             }
         }
-        due(told + " breach()", bench.breach(), model.breach());
+        for (int which = -1; which <= 9; which++) {
+            due(told, "count", which, bench.count(which), model.count(which));
+        }
+        due(told, "breach", 0, bench.breach(), model.breach());
     }
 
     private static void compareSearches() {
