@@ -15,7 +15,9 @@ import java.util.TreeSet;
  */
 public final class ModelTest {
     private static final int WALKS = 6000;
-    private static final int WALK_CALLS = 120;
+    private static final int RUNS = 60000;
+    /** Nothing is promised of an object behind these. */
+    private static final int WALK_CALLS = 512;
     private static final int RUNS_COMPARED = 3000;
 
     /** Texts made once, as millions of answers are compared. */
@@ -30,6 +32,9 @@ public final class ModelTest {
         }
         for (int walk = 0; walk < WALKS && wrong < 20; walk++) {
             compareWalk(walk);
+        }
+        for (int run = 0; run < RUNS && wrong < 20; run++) {
+            compareRun();
         }
         compareSearches();
         System.out.println(wrong == 0 ? "all answers are the model's" : wrong + " answers are not");
@@ -77,10 +82,45 @@ public final class ModelTest {
         Model model = new Model();
         StringBuilder told = new StringBuilder("walk " + walk + ":");
         int before = wrong;
-        compareState(told, bench, model);
         for (int call = 0; call < WALK_CALLS && wrong == before; call++) {
-            compareCall(told, bench, model);
-            compareState(told, bench, model);
+            // Many questions between two changes, as there is much to ask of each state.
+            if (pick(16) == 0) {
+                compareCall(told, bench, model);
+            } else {
+                compareAnswer(told, bench, model);
+            }
+        }
+    }
+
+    /** A run with as much in it as may be: all have an input, and often as many crash as may. */
+    private static void compareRun() {
+        CrashRounds bench = new CrashRounds();
+        Model model = new Model();
+        int n = 2 + pick(7);
+        int t = pick(Math.min(4, n));
+        int[] s = {pick(7), n, t, 1 + pick(3), pick(3)};
+        String told = "start(" + s[0] + "," + n + "," + t + "," + s[3] + "," + s[4] + ")";
+        due(told, bench.start(s[0], n, t, s[3], s[4]), model.start(s[0], n, t, s[3], s[4]));
+        int values = 2 + pick(15);
+        for (int p = 0; p < n; p++) {
+            int value = pick(values);
+            told += " " + value;
+            due(told, bench.input(p, value), model.input(p, value));
+        }
+        for (int crash = 0; crash < t; crash++) {
+            int p = pick(n);
+            int round = 1 + pick(model.rounds + 1);
+            int reach = pick(1 << n) & pick(1 << n);
+            told += " crash(" + p + "," + round + "," + reach + ")";
+            due(told, bench.crash(p, round, reach), model.crash(p, round, reach));
+        }
+        // Looked at twice, not behind each round, to stay below 512 calls.
+        int looked = pick(model.rounds);
+        for (int round = 1; round <= model.rounds; round++) {
+            due(told + " step", bench.step(), model.step());
+            if (round == looked || round == model.rounds) {
+                compareState(told + " behind round " + round, bench, model);
+            }
         }
     }
 
@@ -125,6 +165,35 @@ public final class ModelTest {
             default:
                 told.append(" again()");
                 due(told.toString(), bench.again(), model.again());
+                break;
+        }
+    }
+
+    private static void compareAnswer(CharSequence told, CrashRounds bench, Model model) {
+        int p = pick(model.n + 3) - 1;
+        int q = pick(model.n + 3) - 1;
+        switch (pick(7)) {
+            case 0:
+                due(told, "decided", p, bench.decided(p), model.decided(p));
+                break;
+            case 1:
+                due(told, "decidedIn", p, bench.decidedIn(p), model.decidedIn(p));
+                break;
+            case 2:
+                due(told, "knows", p, bench.knows(p), model.knows(p));
+                break;
+            case 3:
+                due(told, "heard", p, bench.heard(p), model.heard(p));
+                break;
+            case 4:
+                due(told, VECTOR_OF[q + 1], p, bench.vector(p, q), model.vector(p, q));
+                break;
+            case 5:
+                int which = pick(11) - 1;
+                due(told, "count", which, bench.count(which), model.count(which));
+                break;
+            default:
+                due(told, "breach", 0, bench.breach(), model.breach());
                 break;
         }
     }

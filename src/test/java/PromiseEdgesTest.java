@@ -49,6 +49,7 @@ public final class PromiseEdgesTest extends Checks {
         breachOfThisRun();
         breachNotOver();
         searchFirst();
+        searchAnew();
         searchNone();
         searchRunGoesOn();
         searchBig();
@@ -767,6 +768,25 @@ public final class PromiseEdgesTest extends Checks {
         x.run();
         due("search(2) behind all rounds", x.search(2), 1);
         same("found", found(x), due);
+    }
+
+    private static void searchAnew() {
+        sentence("16: A search of this algorithm");
+        for (int before = FLOOD; before <= ROTOR; before++) {
+            for (int algorithm = FLOOD; algorithm <= ROTOR; algorithm++) {
+                for (int less = 1; less <= 2; less++) {
+                    CrashRounds fresh = of(algorithm, 4, 2, 1, less);
+                    fresh.search(2);
+                    CrashRounds x = of(before, 4, 2, 1, 1);
+                    x.search(2);
+                    x.start(algorithm, 4, 2, 1, less);
+                    due("search(2), as on a new object", x.search(2), fresh.found(0, 0));
+                    same("found behind another search", found(x), found(fresh));
+                    due("search(2) once more", x.search(2), fresh.found(0, 0));
+                    same("found behind the same search", found(x), found(fresh));
+                }
+            }
+        }
     }
 
     private static void searchNone() {

@@ -44,7 +44,10 @@ public final class TermsEdgesTest extends Checks {
         breachOfLeast();
         breachOfUniform();
         breachOfVector();
+        breachOfNobodysInput();
+        breachOfMissedInputs();
         breachOfCommit();
+        breachOfLateDecision();
         breachNone();
         searchInputs();
         searchPlans();
@@ -487,12 +490,15 @@ public final class TermsEdgesTest extends Checks {
         due("count(8), 3 got that of 2, 4 did not", x.count(8), 0b01110);
         due("heard(3)", x.heard(3), 3);
         due("heard(4)", x.heard(4), 2);
-        CrashRounds byLetterAlone = planned(of(UNIFORM, 5, 3, 1, 0),
-                new int[] {0, 1, 0b00010}, new int[] {2, 2, 0});
-        byLetterAlone.step();
-        byLetterAlone.step();
-        due("heard(4), one fewer than before", byLetterAlone.heard(4), 3);
-        due("count(8)", byLetterAlone.count(8), 0b11010);
+        // With LESS = 2 round 2 is round R.
+        for (int less = 0; less <= 2; less += 2) {
+            CrashRounds byLetterAlone = planned(of(UNIFORM, 5, 3, 1, less),
+                    new int[] {0, 1, 0b00010}, new int[] {2, 2, 0});
+            byLetterAlone.step();
+            byLetterAlone.step();
+            due("heard(4), one fewer than before", byLetterAlone.heard(4), 3);
+            due("count(8)", byLetterAlone.count(8), 0b11010);
+        }
     }
 
     private static void uniformDecides() {
@@ -746,15 +752,20 @@ public final class TermsEdgesTest extends Checks {
     private static void breachOfTwoSound() {
         sentence("1 two sound processes decided different values");
         for (int algorithm : new int[] {FLOOD, EARLY, UNIFORM, ROTOR}) {
-            CrashRounds x = planned(of(algorithm, 3, 1, 1, 1, 1, 2, 2), new int[] {0, 1, 0b010});
-            x.run();
-            due("decided(1)", x.decided(1), 1);
-            due("decided(2)", x.decided(2), 2);
-            due("breach(), two are different", x.breach(), 1);
-            x.again();
-            x.input(0, 2);
-            x.run();
-            due("breach(), the values are the same", x.breach(), 0);
+            // K is for LEAST alone.
+            for (int k = 1; k <= 3; k++) {
+                CrashRounds x = planned(of(algorithm, 3, 1, k, 1, 1, 2, 2),
+                        new int[] {0, 1, 0b010});
+                x.run();
+                due("decided(1)", x.decided(1), 1);
+                due("decided(2)", x.decided(2), 2);
+                due("breach(), two are different", x.breach(), 1);
+                x.again();
+                x.input(0, 2);
+                x.run();
+                due("breach(), the values are the same", x.breach(), 0);
+                due("search(2)", x.search(2), 1);
+            }
         }
         CrashRounds alone = planned(of(FLOOD, 2, 1, 1, 1, 1, 2), new int[] {0, 1, 0});
         alone.run();
@@ -818,9 +829,38 @@ public final class TermsEdgesTest extends Checks {
         due("breach(), the sound ones know the same", same.breach(), 0);
     }
 
+    private static void breachOfNobodysInput() {
+        sentence("2 some process decided what is nobody's input");
+        // By the rules nobody ever does; a decided 0 or 15 must be looked for among the inputs.
+        for (int algorithm : new int[] {FLOOD, EARLY, UNIFORM, LEAST, ROTOR}) {
+            for (int[] inputs : new int[][] {{15, 15, 15}, {0, 0, 0}, {0, 15, 15}, {15, 14, 0}}) {
+                CrashRounds x = of(algorithm, 3, 1, 1, 0, inputs);
+                x.run();
+                due("breach()", x.breach(), 0);
+                x.again();
+                // The input of one that reaches nobody is somebody's, too.
+                x.crash(2, 2, 0);
+                x.run();
+                due("breach()", x.breach(), 0);
+            }
+        }
+    }
+
+    private static void breachOfMissedInputs() {
+        sentence("VECTOR: a sound one does not know the input of some sound one");
+        CrashRounds x = planned(of(VECTOR, 4, 3, 1, 2),
+                new int[] {0, 1, 0}, new int[] {1, 1, 0}, new int[] {2, 1, 0});
+        x.run();
+        due("knows(3), no input of the three others", x.knows(3), 0b1000);
+        due("breach(), none of them is sound", x.breach(), 0);
+        CrashRounds all = of(VECTOR, 8, 0, 1, 0);
+        all.run();
+        due("breach(), all are sound and known", all.breach(), 0);
+    }
+
     private static void breachOfCommit() {
         sentence("COMMIT: one decided 1 and some input is 0, or 0, no input is 0 and F is 0");
-        CrashRounds x = of(COMMIT, 3, 1, 1, 1, 1, 1, 1);
+        CrashRounds x = of(COMMIT, 3, 1, 2, 1, 1, 1, 1);
         x.run();
         due("breach(): 1, no input is 0", x.breach(), 0);
         x.again();
@@ -837,6 +877,25 @@ public final class TermsEdgesTest extends Checks {
         x.crash(2, 1, 0b001);
         x.run();
         due("breach(): 1 and 0", x.breach(), 1);
+    }
+
+    private static void breachOfLateDecision() {
+        sentence("3 a sound one did not decide up to round BOUND");
+        // UNIFORM needs a round to see each crash, one for its mark and one to send that.
+        for (int crashes = 0; crashes <= 3; crashes++) {
+            CrashRounds x = of(UNIFORM, 5, 3, 1, 0);
+            for (int p = 0; p < crashes; p++) {
+                x.crash(p, p + 1, 0);
+            }
+            x.run();
+            due("count(6)", x.count(6), Math.min(crashes + 2, 4));
+            due("decidedIn(4), in round BOUND", x.decidedIn(4), x.count(6));
+            due("breach()", x.breach(), 0);
+        }
+        CrashRounds down = planned(of(EARLY, 3, 2, 1, 0), new int[] {0, 1, 0}, new int[] {1, 3, 0});
+        down.run();
+        due("decidedIn(0), which is not sound", down.decidedIn(0), 0);
+        due("breach()", down.breach(), 0);
     }
 
     private static void breachNone() {
@@ -926,9 +985,10 @@ public final class TermsEdgesTest extends Checks {
             due("search(2)", x.search(2), 1);
             due("found(4, 0), the least that is not empty", x.found(4, 0), 0b10);
         }
-        CrashRounds alone = of(VECTOR, 3, 1, 1, 1);
-        due("search(1)", alone.search(1), 1);
-        due("found(4, 0)", alone.found(4, 0), 0b10);
+        CrashRounds empty = of(ROTOR, 4, 2, 1, 1);
+        due("search(2)", empty.search(2), 1);
+        due("found(4, 0), an empty one is the first", empty.found(4, 0), 0);
+        due("found(4, 1), an empty one is the first", empty.found(4, 1), 0);
     }
 
     private static void orderByInputs() {
