@@ -41,6 +41,7 @@ public final class TermsEdgesTest extends Checks {
         bound();
         breachWhenOver();
         breachOfTwoSound();
+        breachOfAnyTwo();
         breachOfLeast();
         breachOfUniform();
         breachOfVector();
@@ -778,6 +779,32 @@ public final class TermsEdgesTest extends Checks {
         due("breach(), the other one is not sound", unsound.breach(), 0);
     }
 
+    private static void breachOfAnyTwo() {
+        sentence("two sound processes decided different values, whichever they are");
+        for (int algorithm = FLOOD; algorithm <= ROTOR; algorithm++) {
+            for (int n = 3; n <= 8; n++) {
+                // Only process 0 sends in round 1 of ROTOR.
+                int crashing = algorithm == ROTOR ? 0 : n - 1;
+                for (int reached = 0; reached < n; reached++) {
+                    if (reached != crashing) {
+                        dueBreachOfOneReached(algorithm, n, crashing, reached);
+                    }
+                }
+            }
+        }
+    }
+
+    /** One is reached and decides otherwise than all others. */
+    private static void dueBreachOfOneReached(int algorithm, int n, int crashing, int reached) {
+        CrashRounds x = of(algorithm, n, 1, 1, 1);
+        for (int p = 0; p < n; p++) {
+            x.input(p, p == crashing ? 1 : 2);
+        }
+        x.crash(crashing, 1, 1 << reached);
+        x.run();
+        due("breach(), " + reached + " alone is reached", x.breach(), 1);
+    }
+
     private static void breachOfLeast() {
         sentence("LEAST: the sound ones more than K different ones");
         for (int k = 1; k <= 3; k++) {
@@ -929,8 +956,12 @@ public final class TermsEdgesTest extends Checks {
 
     private static void searchPlans() {
         sentence("goes over all runs with plans of at most T crashes in rounds 1 to R");
-        CrashRounds none = of(FLOOD, 3, 0, 1, 0);
-        due("search(3), T is 0", none.search(3), 0);
+        // One crash more breaks ROTOR at once, and it is the first run behind those with T crashes.
+        for (int d = 1; d <= 3; d++) {
+            due("search, T is 0", of(ROTOR, 3, 0, 1, 0).search(d), 0);
+            due("search, T is 1", of(ROTOR, 4, 1, 1, 0).search(d), 0);
+        }
+        due("search(2), T is 2", of(ROTOR, 4, 2, 1, 0).search(2), 0);
         due("search(2), one crash and R = 1", of(0, 3, 1, 1, 1).search(2), 1);
         due("search(2), one crash and R = 2", of(0, 3, 1, 1, 0).search(2), 0);
         CrashRounds two = of(FLOOD, 4, 2, 1, 1);
