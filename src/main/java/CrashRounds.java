@@ -150,9 +150,9 @@ public final class CrashRounds {
             case 4:
                 return current.letters;
             case 5:
-                return current.faults();
+                return rules.faultsBeside(current.sound());
             case 6:
-                return current.bound();
+                return rules.boundFor(current.sound());
             case 7:
                 return current.up;
             case 8:
@@ -270,6 +270,15 @@ public final class CrashRounds {
 
         int everyone() {
             return (1 << processes) - 1;
+        }
+
+        int faultsBeside(int sound) {
+            return processes - Integer.bitCount(sound);
+        }
+
+        int boundFor(int sound) {
+            boolean mayEndEarly = algorithm == EARLY || algorithm == UNIFORM;
+            return mayEndEarly ? Math.min(faultsBeside(sound) + 2, rounds) : rounds;
         }
     }
 
@@ -582,15 +591,6 @@ public final class CrashRounds {
             return rules.everyone() & ~plan.crashingIn(1, rules.rounds);
         }
 
-        int faults() {
-            return rules.processes - Integer.bitCount(sound());
-        }
-
-        int bound() {
-            boolean mayEndEarly = rules.algorithm == EARLY || rules.algorithm == UNIFORM;
-            return mayEndEarly ? Math.min(faults() + 2, rules.rounds) : rules.rounds;
-        }
-
         int firstBreach() {
             int sound = sound();
             int decisions = decisionsOf(rules.everyone());
@@ -630,17 +630,17 @@ public final class CrashRounds {
                 case VECTOR:
                     return missesSomeOf(sound);
                 case COMMIT:
-                    return commitsWrongly(decisions);
+                    return commitsWrongly(sound, decisions);
                 default:
                     return (decisions & ~inputs.asBits(rules.everyone())) != 0;
             }
         }
 
-        private boolean commitsWrongly(int decisions) {
+        private boolean commitsWrongly(int sound, int decisions) {
             if (inputs.least(rules.everyone()) == 0) {
                 return has(decisions, 1);
             }
-            return has(decisions, 0) && faults() == 0;
+            return has(decisions, 0) && rules.faultsBeside(sound) == 0;
         }
 
         private boolean missesSomeOf(int sound) {
@@ -653,7 +653,7 @@ public final class CrashRounds {
         }
 
         private boolean isLate(int sound) {
-            int bound = bound();
+            int bound = rules.boundFor(sound);
             for (int p = 0; p < rules.processes; p++) {
                 if (has(sound, p) && (decidedIn[p] == 0 || decidedIn[p] > bound)) {
                     return true;

@@ -61,9 +61,12 @@ public final class FaceTest {
     private static void checkFields(Class<?> face) {
         Set<String> seen = new TreeSet<>();
         for (Field field : face.getDeclaredFields()) {
-            if (!Modifier.isPrivate(field.getModifiers())) {
+            int modifiers = field.getModifiers();
+            if (!Modifier.isPrivate(modifiers)) {
                 seen.add(field.getName());
-                check(field.getType() == int.class, field + " is an int");
+                check(field.getType() == int.class && Modifier.isPublic(modifiers)
+                        && Modifier.isStatic(modifiers) && Modifier.isFinal(modifiers),
+                        field + " is a public constant");
             }
         }
         check(seen.equals(Set.of("BAD", "NONE", "BIG")), "the constants are the document's: " + seen);
